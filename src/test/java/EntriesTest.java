@@ -8,6 +8,7 @@ public final class EntriesTest {
         addPacked();
         sixtyFour();
         fullBox();
+        fullBoxAfterRead();
         remove();
         move();
         aboutNamePart();
@@ -116,6 +117,25 @@ public final class EntriesTest {
         Due.is("bytes behind a removed one", x.part(0, 32766), last);
         Due.is("room again", x.add(), 2);
         Due.is("its byte", x.part(2, 0), 0);
+    }
+
+    private static void fullBoxAfterRead() {
+        PartBox x = new PartBox();
+        x.write();
+        Due.call(x, "old");
+        x.add();
+        Due.is("an empty container", x.read(0), 0);
+        Due.is("the old one is gone", x.count(), 0);
+        Due.grow(x, 32768);
+        Due.call(x, "a");
+        x.add();
+        Due.call(x, "b");
+        Due.is("nothing is left of the old bytes", x.add(), 1);
+        int last = x.part(0, 32767);
+        x.remove(1);
+        Due.is("the first one stays", x.part(0, 32767), last);
+        Due.is("room again", x.add(), 1);
+        Due.is("its last byte", x.part(1, 32767), last);
     }
 
     private static void remove() {
