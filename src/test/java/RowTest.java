@@ -84,7 +84,7 @@ public final class RowTest {
         PartBox x = new PartBox();
         Due.grow(x, 65517 - 20);
         x.feed(0, 0, 0, 0, 1);
-        Due.is("three short of full less 16", x.length(), 65517);
+        Due.is("19 bytes short of full", x.length(), 65517);
         Due.badState("feed above 65536", () -> x.feed(1, 2, 3, 4, 5));
         Due.is("nothing was fed", x.length(), 65517);
         x.end(65516);
