@@ -1,13 +1,21 @@
 import java.io.ByteArrayOutputStream;
 import java.math.BigInteger;
+import java.nio.ByteBuffer;
 import java.util.ArrayList;
 import java.util.Arrays;
 import java.util.Comparator;
 import java.util.List;
 import java.util.Locale;
 
-/** A second reading of the document, as plain as the Java library makes it; an exception is answered as its name. */
+/**
+ * A second reading of the document, as plain as the Java library makes it. An exception is answered as its name, and a
+ * call that answers nothing answers 0.
+ */
 final class Model {
+    private static final String BAD_INDEX = "IndexOutOfBoundsException";
+    private static final String BAD_ARGUMENT = "IllegalArgumentException";
+    private static final String BAD_STATE = "IllegalStateException";
+
     record Part(String name, int method, byte[] bytes, int size, int check) {
     }
 
@@ -43,6 +51,103 @@ final class Model {
         return name.toLowerCase(Locale.ROOT);
     }
 
+    Object feed(int... words) {
+        if (row.length + 20 > 65536) {
+            return BAD_STATE;
+        }
+        ByteBuffer longer = ByteBuffer.allocate(row.length + 20).put(row);
+        Arrays.stream(words).forEach(longer::putInt);
+        row = longer.array();
+        return 0;
+    }
+
+    Object end(int n) {
+        if (n < 0 || n > row.length) {
+            return BAD_ARGUMENT;
+        }
+        row = Arrays.copyOf(row, n);
+        return 0;
+    }
+
+    Object alter(int i, int b) {
+        if (i < 0 || i >= row.length) {
+            return BAD_INDEX;
+        }
+        if (b < 0 || b > 255) {
+            return BAD_ARGUMENT;
+        }
+        row[i] = (byte) b;
+        return 0;
+    }
+
+    Object byteAt(int i) {
+        return i < 0 || i >= row.length ? BAD_INDEX : (Object) Byte.toUnsignedInt(row[i]);
+    }
+
+    Object type(int word) {
+        String more = Due.text(ByteBuffer.allocate(4).putInt(word).array()).replace("\0", "");
+        if (!more.chars().allMatch(c -> c >= 33 && c <= 126)) {
+            return BAD_ARGUMENT;
+        }
+        if (name.length() + more.length() > 64) {
+            return BAD_STATE;
+        }
+        name += more;
+        return name.length();
+    }
+
+    private boolean has(int entry) {
+        return entry >= 0 && entry < parts.size();
+    }
+
+    Object remove(int entry) {
+        if (!has(entry)) {
+            return BAD_INDEX;
+        }
+        parts.remove(entry);
+        return 0;
+    }
+
+    Object move(int entry, int to) {
+        if (!has(entry) || !has(to)) {
+            return BAD_INDEX;
+        }
+        parts.add(to, parts.remove(entry));
+        return 0;
+    }
+
+    Object about(int entry, int what) {
+        if (!has(entry)) {
+            return BAD_INDEX;
+        }
+        Part p = parts.get(entry);
+        int[] told = {p.method, p.bytes.length, p.size, p.check, p.name.length()};
+        return what < 0 || what >= told.length ? BAD_ARGUMENT : (Object) told[what];
+    }
+
+    Object name(int entry, int k) {
+        if (!has(entry)) {
+            return BAD_INDEX;
+        }
+        String letters = parts.get(entry).name;
+        return k < 0 || k >= letters.length() ? -1 : (int) letters.charAt(k);
+    }
+
+    Object part(int entry, int i) {
+        if (!has(entry) || i < 0 || i >= parts.get(entry).bytes.length) {
+            return BAD_INDEX;
+        }
+        return Byte.toUnsignedInt(parts.get(entry).bytes[i]);
+    }
+
+    Object blame(int what) {
+        return what < 0 || what >= blamed.length ? BAD_ARGUMENT : (Object) blamed[what];
+    }
+
+    int bytesInAll() {
+        return parts.stream().mapToInt(p -> p.bytes.length).sum();
+    }
+
     int find() {
         for (int i = 0; i < parts.size(); i++) {
             if (folded(parts.get(i).name).equals(folded(name))) {
@@ -54,10 +159,10 @@ final class Model {
 
     Object add(int method, int size, int check) {
         if (!isName(name) || find() >= 0 || size < 0) {
-            return "IllegalArgumentException";
+            return BAD_ARGUMENT;
         }
-        if (parts.size() == 64 || row.length + parts.stream().mapToInt(p -> p.bytes.length).sum() > 65536) {
-            return "IllegalStateException";
+        if (parts.size() == 64 || row.length + bytesInAll() > 65536) {
+            return BAD_STATE;
         }
         parts.add(new Part(name, method, row.clone(), size, check));
         return parts.size() - 1;
@@ -83,7 +188,7 @@ final class Model {
         String count = little(parts.size(), 2);
         entries.writeBytes(hex("504B050600000000" + count + count + little(directory.size(), 4) + little(at, 4) + "0000"));
         if (entries.size() > 65536) {
-            return "IllegalStateException";
+            return BAD_STATE;
         }
         row = entries.toByteArray();
         return row.length;
@@ -106,7 +211,10 @@ final class Model {
         return java.util.HexFormat.of().parseHex(text);
     }
 
-    int read(int limit) {
+    Object read(int limit) {
+        if (limit < 0 || limit > 65536) {
+            return BAD_ARGUMENT;
+        }
         try {
             parts = reading(limit);
             blamed = new int[] {0, -1, -1};
