@@ -442,6 +442,12 @@ public final class EntriesTest {
         x.move(6, 1);
         x.remove(0);
         orderIs(x, "hcefag");
+        PartBox lastFirst = letters("abcd");
+        lastFirst.move(3, 0);
+        lastFirst.remove(2);
+        orderIs(lastFirst, "dac");
+        lastFirst.remove(2);
+        orderIs(lastFirst, "da");
     }
 
     /** "what = 0 its method, 1 how many bytes, 2 its size, 3 its check, 4 how long its name is." */

@@ -429,6 +429,22 @@ public final class FaultTest {
         named("64 of them", 0, NONE, names);
         names[63] = "N0";
         named("the last like the first", 5, 63, names);
+        namesAmongOtherBytes();
+    }
+
+    /** Nothing but the names themselves makes them alike or not. */
+    private static void namesAmongOtherBytes() {
+        Container c = new Container();
+        c.packed("same", "", 0, 0).directoryExtra = Due.latin("a");
+        c.packed("SAME", "", 0, 0).comment = Due.latin("b");
+        byte[] row = c.build();
+        int second = c.items.get(1).directoryHead;
+        fault("other bytes behind them", 5, second, 1, row);
+        fault("other bytes before them", 5, second, 1, with(row, second + 45, 1, 1));
+        Container other = new Container();
+        other.packed("sam", "", 0, 0).directoryExtra = Due.latin("e");
+        other.packed("same", "", 0, 0);
+        sound("extra is no part of a name", other.build());
     }
 
     /** "6: stored, and the number of bytes is not the size." */

@@ -29,8 +29,8 @@ public final class ModelTest {
         for (run = 0; run < 600; run++) {
             new ModelTest(run).runOfCalls();
         }
-        for (run = 0; run < 40000; run++) {
-            new ModelTest(run).alteredContainer();
+        for (run = 0; run < 15000; run++) {
+            new ModelTest(run).alteredContainers();
         }
         enoughWasSeen();
         Due.finish();
@@ -303,6 +303,13 @@ public final class ModelTest {
         }
         c.comment = new byte[random.nextInt(3) == 0 ? random.nextInt(30) : 0];
         return c;
+    }
+
+    /** One after another in the same object, so that what an earlier reading has left behind would show. */
+    private void alteredContainers() {
+        for (int times = 0; times < 4; times++) {
+            alteredContainer();
+        }
     }
 
     private void alteredContainer() {

@@ -20,6 +20,7 @@ public final class ReadTest {
         rowAndNameStay();
         theBoxIsAsItWas();
         readTwice();
+        readOneAfterAnother();
         allThatIsAllowed();
         blameBefore();
         blameAfterAFault();
@@ -210,6 +211,32 @@ public final class ReadTest {
         x.write();
         x.read(FULL);
         Due.isTrue("written and read again", Arrays.equals(box, Due.box(x)));
+    }
+
+    /** "The row is read": whatever was read before it. */
+    private static void readOneAfterAnother() {
+        Container c = three();
+        c.directoryOrder = List.of(2, 1, 0);
+        byte[] backwards = c.build();
+        c.directoryOrder = List.of(1, 2, 0);
+        byte[] mixed = c.build();
+        c.directoryOrder = List.of(0);
+        byte[] gap = c.build();
+        byte[] wrong = three().build();
+        wrong[35] ^= 1;
+        byte[][] rows = {three().build(), backwards, mixed, gap, wrong, of(64).build(), new Container().build(), new byte[9]};
+        for (byte[] before : rows) {
+            for (byte[] row : rows) {
+                PartBox x = load(before);
+                x.read(FULL);
+                int[] box = Due.box(x);
+                Due.load(x, row);
+                PartBox fresh = load(row);
+                int fault = fresh.read(FULL);
+                Due.readIs(x, "after another", FULL, fault, fresh.blame(1), fresh.blame(2));
+                Due.isTrue("the box", Arrays.equals(Due.box(x), fault == 0 ? Due.box(fresh) : box));
+            }
+        }
     }
 
     /** What a container may have and writing does not make: tails, flags, extras, comments, another order. */
